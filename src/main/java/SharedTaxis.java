@@ -551,7 +551,6 @@ public final class SharedTaxis {
         int zones;
         int roads;
         private final int[] ways = new int[MOST_ZONES * MOST_ZONES];
-        private final boolean[] joined = new boolean[MOST_ZONES * MOST_ZONES];
 
         void clear(int count) {
             zones = count;
@@ -559,7 +558,6 @@ public final class SharedTaxis {
             for (int a = 0; a < MOST_ZONES; a++) {
                 for (int b = 0; b < MOST_ZONES; b++) {
                     ways[a * MOST_ZONES + b] = a == b ? 0 : NONE;
-                    joined[a * MOST_ZONES + b] = false;
                 }
             }
         }
@@ -569,12 +567,7 @@ public final class SharedTaxis {
             roads = other.roads;
             for (int i = 0; i < ways.length; i++) {
                 ways[i] = other.ways[i];
-                joined[i] = other.joined[i];
             }
-        }
-
-        boolean hasRoad(int a, int b) {
-            return hasPlaces(a, b) && joined[a * MOST_ZONES + b];
         }
 
         int wayMinutes(int a, int b) {
@@ -590,13 +583,11 @@ public final class SharedTaxis {
                 return;
             }
             roads++;
-            joined[a * MOST_ZONES + b] = true;
-            joined[b * MOST_ZONES + a] = true;
             ways[a * MOST_ZONES + b] = minutes;
             ways[b * MOST_ZONES + a] = minutes;
         }
 
-        /** Called once all roads are there: till then the ways hold the single roads alone. */
+        /** Called once all roads are there: till then each way is a road, or that from a zone to itself. */
         void findWays() {
             for (int over = 0; over < MOST_ZONES; over++) {
                 for (int a = 0; a < MOST_ZONES; a++) {
@@ -1596,7 +1587,8 @@ public final class SharedTaxis {
         private void readRoad() {
             int first = tokens.takeNumber(0, town.zones - 1);
             int second = tokens.checkNumber(0, town.zones - 1);
-            if (first == second || town.hasRoad(first, second)) {
+            // Before the ways are found, only a road joins two zones, and each zone itself.
+            if (town.wayMinutes(first, second) != NONE) {
                 tokens.fail(4);
             }
             tokens.next();

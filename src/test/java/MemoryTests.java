@@ -12,6 +12,7 @@ public final class MemoryTests {
         undoNothing();
         snapshot();
         snapshotStays();
+        numbersAgain();
         Check.end();
     }
 
@@ -197,6 +198,50 @@ public final class MemoryTests {
         x.advance(500);
         Check.due("restoreSnapshot", x.restoreSnapshot() ? 1 : 0, 1);
         Check.dueText("everything", Check.everything(x), saved);
+    }
+
+    /** A ride that is asked for behind an undo or a snapshot keeps nothing of the one that had its number. */
+    private static void numbersAgain() {
+        SharedTaxis x = Check.desk(TOWN);
+        x.ask(0, 1, 2, 3, 4);
+        x.saveSnapshot();
+        String saved = Check.everything(x);
+        x.undo();
+        String fresh = Check.everything(x);
+        Check.book(x, 1, 2, 1, 10, 60);
+        x.absent(0);
+        x.advance(30);
+        Check.due("no-show", x.ride(0, 0), 5);
+        Check.due("restoreSnapshot", x.restoreSnapshot() ? 1 : 0, 1);
+        Check.dueText("everything", Check.everything(x), saved);
+        x.advance(6);
+        x.ask(0, 1, 1, 100, 0);
+        x.undo();
+        x.undo();
+        Check.dueText("everything", Check.everything(x), saved);
+        SharedTaxis y = Check.desk(TOWN);
+        Check.dueText("everything", Check.everything(y), fresh);
+        Check.book(y, 0, 2, 1, 0, 0);
+        y.advance(3);
+        Check.due("aboard", y.ride(0, 0), 2);
+        y.undo();
+        y.undo();
+        y.undo();
+        y.setRule(4, 77);
+        // Asked for again, it is not aboard since 1: it can be picked up at 9.
+        Check.due("ask", y.ask(0, 1, 1, 9, 0), 0);
+        Check.dueText("ride", Check.ride(y, 0), "0 0 1 1 9 24 0 10 10 -1 -1 -1 0 0");
+        Check.dueText("offer", Check.offer(y, 0), "0 10 9 20 5");
+        y.accept(0);
+        y.absent(0);
+        y.advance(30);
+        Check.due("charged", y.ride(0, 12), 77);
+        y.undo();
+        y.undo();
+        y.undo();
+        y.undo();
+        y.ask(0, 1, 1, 9, 0);
+        Check.dueText("ride", Check.ride(y, 0), "0 0 1 1 9 24 0 10 10 -1 -1 -1 0 0");
     }
 
     private static void snapshotStays() {

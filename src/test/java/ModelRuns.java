@@ -96,7 +96,7 @@ public final class ModelRuns {
                 }
             }
         }
-        int taxis = below(8) == 0 ? below(5) : 1 + below(3);
+        int taxis = below(8) == 0 ? below(6) : 1 + below(3);
         for (int i = 0; i < taxis; i++) {
             int begin = below(3) == 0 ? below(300) : 0;
             clauses.add("taxi " + (1 + below(6)) + " " + below(zones) + " " + begin + " " + (begin + 1 + below(2879 - begin)));
@@ -260,7 +260,8 @@ public final class ModelRuns {
         for (int t = 0; t < real.size(2); t++) {
             for (int what = 0; what <= 9; what++) call("taxi", t, what);
             for (int what = 0; what <= 5; what++) call("account", t, what);
-            call("keeps", t);
+            seen.merge("keeps=" + call("keeps", t) + " with stops " + real.taxi(t, 5), 1, Integer::sum);
+            seen.merge("parties aboard " + real.taxi(t, 7), 1, Integer::sum);
             call("routeMinutes", t);
             for (int i = 0; i < real.taxi(t, 5); i++) for (int what = 0; what <= 5; what++) call("stop", t, i, what);
             int bytes = Integer.parseInt(call("format", t));

@@ -90,6 +90,8 @@ public final class OperationTests {
         SharedTaxis x = Check.desk(TOWN);
         asked(x, 4, 0, 3, 1, 0, 200);
         asked(x, 4, 3, 0, 1, 0, 200);
+        // There is a way for the ride, but none to it.
+        asked(Check.desk("zones 4;road 0 1 10;road 2 3 5;taxi 4 0 0 1000;"), 4, 2, 3, 1, 0, 200);
         asked(x, 4, 0, 1, 5, 0, 0);
         asked(x, 0, 0, 1, 4, 0, 0);
         // The last stop is done at 12.
@@ -171,7 +173,8 @@ public final class OperationTests {
     }
 
     private static void askStops() {
-        SharedTaxis x = Check.desk("zones 2;road 0 1 1;taxi 6 0 0 999;rule wait 60;rule dwell 0;");
+        SharedTaxis x = Check.desk("zones 2;road 0 1 1;taxi 6 0 0 999;rule wait 60;rule dwell 0;"
+            + "rule patience 0;");
         for (int i = 0; i < 6; i++) {
             Check.due("accept", x.accept(x.ask(0, 1, 1, 0, 200)), 0);
         }
@@ -242,6 +245,14 @@ public final class OperationTests {
         Check.due("arrival", x.offer(2, 2), 22);
         Check.due("accept", x.accept(2), 22);
         Check.dueText("format", Check.format(x, 0), "+0@1 -0@0 +2@0 -2@1");
+        // Behind the stop for which it has left there is a place at once.
+        SharedTaxis z = Check.desk("zones 3;road 0 1 10;road 1 2 5;taxi 4 0 0 999;");
+        Check.book(z, 0, 2, 1, 0, 200);
+        Check.book(z, 0, 1, 1, 0, 200);
+        z.advance(5);
+        Check.dueText("format", Check.format(z, 0), "-1@1 -0@2");
+        Check.book(z, 1, 2, 1, 0, 200);
+        Check.dueText("format", Check.format(z, 0), "-1@1 +2@1 -2@2 -0@2");
         // If it has not left yet, it can be sent elsewhere.
         SharedTaxis y = Check.desk("zones 2;road 0 1 10;taxi 4 0 0 999;rule wait 60;");
         Check.book(y, 1, 0, 1, 12, 0);
@@ -545,6 +556,22 @@ public final class OperationTests {
         Check.due("paid", x.ride(0, 12), 303);
         Check.due("paid", x.ride(1, 12), 103);
         Check.due("amounts", x.account(0, 5), 206);
+        // The one that came aboard first leaves first, and the others pay on, in their order.
+        SharedTaxis y = Check.desk("zones 3;road 0 1 10;road 1 2 5;taxi 4 0 0 999;tariff 0 1;rule dwell 0;");
+        Check.book(y, 0, 2, 1, 0, 200);
+        Check.book(y, 0, 2, 1, 0, 200);
+        Check.book(y, 0, 1, 2, 0, 200);
+        Check.dueText("format", Check.format(y, 0), "+2@0 +1@0 +0@0 -2@1 -1@2 -0@2");
+        y.advance(14);
+        Check.due("persons", y.taxi(0, 6), 2);
+        Check.due("parties", y.taxi(0, 7), 2);
+        Check.due("paid", y.ride(2, 12), 4);
+        Check.due("fare", y.fare(1), 6);
+        Check.due("fare", y.fare(0), 5);
+        y.advance(1);
+        Check.due("paid", y.ride(2, 12), 4);
+        Check.due("paid", y.ride(1, 12), 6);
+        Check.due("paid", y.ride(0, 12), 5);
     }
 
     // Promise 27

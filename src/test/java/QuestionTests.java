@@ -92,6 +92,10 @@ public final class QuestionTests {
         Check.due("minutes", line.minutes(0, 7), 693);
         Check.due("minutes", line.minutes(7, 0), 693);
         Check.due("minutes", line.minutes(5, 2), 297);
+        SharedTaxis star = Check.desk("zones 4;road 0 1 9;road 0 2 5;road 3 0 1;road 1 2 14;road 2 3 7;");
+        Check.due("minutes", star.minutes(1, 2), 14);
+        Check.due("minutes", star.minutes(1, 3), 10);
+        Check.due("minutes", star.minutes(3, 2), 6);
     }
 
     // Promise 8
@@ -207,6 +211,9 @@ public final class QuestionTests {
         Check.dueText("ride", Check.ride(x, 0), "1 0 2 1 0 15 100 15 30 0 -1 -1 0 0");
         x.ask(0, 3, 5, 6, 7);
         x.ask(2, 0, 2, 600, 10);
+        x.ask(3, 0, 1, 0, 200);
+        Check.dueText("ride", Check.ride(x, 4), "4 3 0 1 0 15 200 -1 -1 -1 -1 -1 0 0");
+        x.undo();
         x.setRule(0, 0);
         Check.dueText("ride", Check.ride(x, 2), "4 0 3 5 6 21 7 -1 -1 -1 -1 -1 0 0");
         Check.dueText("ride", Check.ride(x, 3), "0 2 0 2 600 615 10 15 16 -1 -1 -1 0 0");
@@ -302,6 +309,13 @@ public final class QuestionTests {
         Check.due("fare of a cancelled one", x.fare(2), -1);
         Check.noSuch("fare", () -> x.fare(3));
         Check.noSuch("fare", () -> x.fare(-1));
+        // Behind the drop of the other one it pays alone: 100, 200, 38 and 100.
+        SharedTaxis w = Check.desk("zones 4;road 0 1 10;road 1 2 5;road 2 3 5;taxi 4 0 0 1000;tariff 100 20;discount 2 25;");
+        Check.book(w, 0, 3, 1, 0, 100);
+        Check.book(w, 1, 2, 1, 0, 100);
+        Check.dueText("format", Check.format(w, 0), "+0@0 +1@1 -1@2 -0@3");
+        Check.due("fare", w.fare(0), 438);
+        Check.due("fare", w.fare(1), 137);
         // A party that will not come aboard shares nothing.
         SharedTaxis y = shared();
         y.absent(1);
@@ -384,6 +398,13 @@ public final class QuestionTests {
         keeps(x, true);
         x.setEnd(0, 16);
         keeps(x, false);
+        x.advance(7);
+        Check.due("stops", x.taxi(0, 5), 1);
+        keeps(x, false);
+        x.setEnd(0, 17);
+        keeps(x, true);
+        x.undo();
+        x.undo();
         x.cancel(0);
         keeps(x, true);
         Check.noSuch("keeps", () -> x.keeps(1));

@@ -7,6 +7,7 @@ public final class TextTests {
         loadReadsAll();
         loadReplaces();
         loadErrors();
+        loadManyTokens();
         loadLength();
         errorPosition();
         queryAnswers();
@@ -145,6 +146,8 @@ public final class TextTests {
         error("zones 2;;", 1, 8);
         error("zones 2;zones 2;", 1, 8);
         error("zones 2;rode 0 1 5;", 1, 8);
+        error("zones 2;toad 0 1 5;", 1, 8);
+        error("zones 2;roads 0 1 5;", 1, 8);
         error("zones 2;7", 1, 8);
         error("zones 2;\t", 1, 8);
         error("zones 2;(", 1, 8);
@@ -201,6 +204,28 @@ public final class TextTests {
         // The first error counts, also if a later one has a smaller code.
         error("zones 2;road 0 0 ?", 4, 15);
         error("zones 2;taxi 1 2 x", 2, 15);
+    }
+
+    /** Every byte can be a token, also an invalid one. */
+    private static void loadManyTokens() {
+        for (char sign : new char[] {';', '(', 'A', '0', 'a', (char) 255, 0}) {
+            SharedTaxis x = new SharedTaxis();
+            StringBuilder text = new StringBuilder();
+            while (text.length() < 800) {
+                text.append(sign);
+            }
+            Check.due("load", Check.load(x, text.toString()), -11);
+            Check.due("errorPosition", x.errorPosition(), 0);
+        }
+        SharedTaxis x = new SharedTaxis();
+        StringBuilder text = new StringBuilder("zones 2");
+        while (text.length() < 800) {
+            text.append(";rule rest 9");
+        }
+        Check.due("load", Check.load(x, text.substring(0, 799)), -11);
+        Check.due("errorPosition", x.errorPosition(), 799);
+        Check.due("load", Check.load(x, text.substring(0, 800)), 0);
+        Check.due("rule", x.rule(6), 9);
     }
 
     private static void loadLength() {
