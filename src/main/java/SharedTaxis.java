@@ -1,6 +1,6 @@
 import java.util.NoSuchElementException;
 
-/** A desk of call taxis that are shared. The promises named below are those of the document. */
+/** A desk of call taxis that are shared; what each call promises stands in the document. */
 public final class SharedTaxis {
     public static final int NONE = -1;
     public static final int HIDDEN = -1000000000;
@@ -1695,7 +1695,9 @@ public final class SharedTaxis {
         /** Returns a number as it is, and a property as NONE minus its word. */
         private int readValue() {
             if (tokens.isNumber()) {
-                return tokens.takeNumber(0, MOST_VALUE);
+                int number = tokens.checkNumber(0, MOST_VALUE);
+                tokens.next();
+                return number;
             }
             return NONE - tokens.takeWord(Tokens.TAXI, Tokens.FARE);
         }

@@ -207,8 +207,8 @@ public final class MemoryTests {
         x.saveSnapshot();
         String saved = Check.everything(x);
         x.undo();
-        String fresh = Check.everything(x);
-        Check.book(x, 1, 2, 1, 10, 60);
+        x.setRule(2, 9);
+        Check.book(x, 0, 2, 1, 10, 60);
         x.absent(0);
         x.advance(30);
         Check.due("no-show", x.ride(0, 0), 5);
@@ -219,29 +219,29 @@ public final class MemoryTests {
         x.undo();
         x.undo();
         Check.dueText("everything", Check.everything(x), saved);
+
         SharedTaxis y = Check.desk(TOWN);
-        Check.dueText("everything", Check.everything(y), fresh);
+        y.saveSnapshot();
         Check.book(y, 0, 2, 1, 0, 0);
         y.advance(3);
         Check.due("aboard", y.ride(0, 0), 2);
-        y.undo();
-        y.undo();
-        y.undo();
-        y.setRule(4, 77);
-        // Asked for again, it is not aboard since 1: it can be picked up at 9.
-        Check.due("ask", y.ask(0, 1, 1, 9, 0), 0);
-        Check.dueText("ride", Check.ride(y, 0), "0 0 1 1 9 24 0 10 10 -1 -1 -1 0 0");
-        Check.dueText("offer", Check.offer(y, 0), "0 10 9 20 5");
+        askAgain(y);
         y.accept(0);
         y.absent(0);
         y.advance(30);
-        Check.due("charged", y.ride(0, 12), 77);
-        y.undo();
-        y.undo();
-        y.undo();
-        y.undo();
-        y.ask(0, 1, 1, 9, 0);
-        Check.dueText("ride", Check.ride(y, 0), "0 0 1 1 9 24 0 10 10 -1 -1 -1 0 0");
+        Check.due("charged", y.ride(0, 12), 60);
+        askAgain(y);
+        y.accept(0);
+        y.advance(30);
+        Check.due("done", y.ride(0, 0), 3);
+        askAgain(y);
+    }
+
+    private static void askAgain(SharedTaxis x) {
+        x.restoreSnapshot();
+        Check.due("ask", x.ask(0, 1, 1, 9, 0), 0);
+        Check.dueText("ride", Check.ride(x, 0), "0 0 1 1 9 24 0 10 10 -1 -1 -1 0 0");
+        Check.dueText("offer", Check.offer(x, 0), "0 10 9 20 5");
     }
 
     private static void snapshotStays() {
