@@ -1465,7 +1465,9 @@ public final class SharedTaxis {
 
         /** Goes on to the next token; at the end it stays there. */
         void next() {
-            current = Math.min(current + 1, count - 1);
+            if (current < count - 1) {
+                current++;
+            }
             boolean known = current >= 0 && current <= MOST_BYTES;
             kind = known ? kinds[current] : END;
             value = known ? values[current] : 0;
