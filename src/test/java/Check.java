@@ -6,8 +6,14 @@ final class Check {
     }
 
     private static int wrong = 0;
+    private static String sentence = "";
 
     private Check() { }
+
+    /** Names the sentence of the document that the calls from here on test. */
+    static void says(String words) {
+        sentence = words;
+    }
 
     static void due(String call, long got, long want) {
         if (got != want) {
@@ -52,6 +58,9 @@ final class Check {
             at++;
         }
         System.out.println(stack[at] + ": " + line);
+        if (!sentence.isEmpty()) {
+            System.out.println("    The document says: " + sentence);
+        }
     }
 
     static void end() {
@@ -91,6 +100,22 @@ final class Check {
         return x;
     }
 
+    static void loadFails(String text, int code, int position) {
+        SharedTaxis x = new SharedTaxis();
+        due("load(" + text + ")", load(x, text), -10 - code);
+        due("errorPosition behind load(" + text + ")", x.errorPosition(), position);
+    }
+
+    static void answers(SharedTaxis x, String text, int want) {
+        due("query(" + text + ")", query(x, text), want);
+        due("errorPosition behind query(" + text + ")", x.errorPosition(), -1);
+    }
+
+    static void queryFails(SharedTaxis x, String text, int code, int position) {
+        due("query(" + text + ")", query(x, text), -1000000000 - code);
+        due("errorPosition behind query(" + text + ")", x.errorPosition(), position);
+    }
+
     static String format(SharedTaxis x, int taxi) {
         int length = x.format(taxi);
         StringBuilder text = new StringBuilder();
@@ -108,6 +133,39 @@ final class Check {
             report("ride " + ride + " is not booked: " + arrival);
         }
         return ride;
+    }
+
+    /** Rides 0 done, 1 a no-show, 2 cancelled, 3 aboard, 4 booked, 5 offered, 6 refused and 7 declined. */
+    static SharedTaxis eightRides() {
+        SharedTaxis x = desk("zones 4;road 0 1 10;road 1 2 5;road 0 2 20;taxi 4 0 0 1000;tariff 100 20;rule fee 70;");
+        book(x, 0, 1, 1, 0, 0);
+        x.advance(12);
+        x.absent(book(x, 1, 2, 1, 0, 0));
+        x.advance(3);
+        x.cancel(book(x, 1, 2, 1, 0, 0));
+        book(x, 1, 2, 1, 0, 0);
+        x.advance(1);
+        book(x, 2, 0, 2, 30, 50);
+        x.ask(0, 1, 3, 60, 7);
+        x.ask(0, 3, 6, 600, 200);
+        x.ask(0, 1, 1, 100, 0);
+        x.decline(7);
+        int[] states = {3, 5, 6, 2, 1, 0, 4, 4};
+        for (int i = 0; i < states.length; i++) {
+            due("state of ride " + i, x.ride(i, 0), states[i]);
+        }
+        return x;
+    }
+
+    /** A call that is refused: it leaves everything as it is, and what can be undone. */
+    static void changesNothing(String call, SharedTaxis x, Call run) {
+        String before = everything(x);
+        int undo = x.undoCount();
+        int error = x.errorPosition();
+        thrownBy(run);
+        dueText("everything behind " + call, everything(x), before);
+        due("undoCount behind " + call, x.undoCount(), undo);
+        due("errorPosition behind " + call, x.errorPosition(), error);
     }
 
     /** One text of answers, from the first kind of number to the last. */

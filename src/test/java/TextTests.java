@@ -123,87 +123,81 @@ public final class TextTests {
         Check.due("restoreSnapshot", x.restoreSnapshot() ? 1 : 0, 0);
     }
 
-    private static void error(String text, int code, int position) {
-        SharedTaxis x = new SharedTaxis();
-        Check.due("load(" + text + ")", Check.load(x, text), -10 - code);
-        Check.due("errorPosition of " + text, x.errorPosition(), position);
-    }
-
     private static void loadErrors() {
-        error("", 1, 0);
-        error("   ", 1, 3);
-        error("zone 2;", 1, 0);
-        error("zoness 2;", 1, 0);
-        error("Zones 2;", 1, 0);
-        error("zones", 1, 5);
-        error("zones ;", 1, 6);
-        error("zones 1;", 2, 6);
-        error("zones 9;", 2, 6);
-        error("zones 02", 1, 8);
-        error("zones 99999999999999999999", 2, 6);
-        error("zones 4294967298;", 2, 6);
-        error("zones 2 2;", 1, 8);
-        error("zones 2;;", 1, 8);
-        error("zones 2;zones 2;", 1, 8);
-        error("zones 2;rode 0 1 5;", 1, 8);
-        error("zones 2;toad 0 1 5;", 1, 8);
-        error("zones 2;roads 0 1 5;", 1, 8);
-        error("zones 2;7", 1, 8);
-        error("zones 2;\t", 1, 8);
-        error("zones 2;(", 1, 8);
-        error("zones 2;road 2 1 5;", 2, 13);
-        error("zones 2;road 0 2 5;", 2, 15);
-        error("zones 2;road 0 0 5;", 4, 15);
-        error("zones 2;road 0 1 0;", 2, 17);
-        error("zones 2;road 0 1 100;", 2, 17);
-        error("zones 2;road 0 1 ;", 1, 17);
-        error("zones 2;road 0 1 5", 1, 18);
-        error("zones 2;road 0 1 5 5;", 1, 19);
-        error("zones 2;road 0 1 5;road 0 1 6;", 4, 26);
-        error("zones 2;road 0 1 5;road 1 0 6;", 4, 26);
-        error("zones 2;road 0 1 5;road 0 0 6;", 4, 26);
-        error("zones 2;road a 1 5;", 1, 13);
-        error("zones 2;road 0 b 5;", 1, 15);
-        error("zones 2;road 0", 1, 14);
-        error("zones 2;taxi 0 0 0 1;", 2, 13);
-        error("zones 2;taxi 7 0 0 1;", 2, 13);
-        error("zones 2;taxi 1 2 0 1;", 2, 15);
-        error("zones 2;taxi 1 1 2880 1;", 2, 17);
-        error("zones 2;taxi 1 1 2879 2879;", 4, 22);
-        error("zones 2;taxi 1 1 2879 2880;", 2, 22);
-        error("zones 2;taxi 1 1 5 4;", 4, 19);
-        error("zones 2;taxi 1 1 5 5;", 4, 19);
-        error("zones 2;taxi 1 1 0 0;", 4, 19);
-        error("zones 2;taxi 1 1 0;", 1, 18);
+        Check.loadFails("", 1, 0);
+        Check.loadFails("   ", 1, 3);
+        Check.loadFails("zone 2;", 1, 0);
+        Check.loadFails("zoness 2;", 1, 0);
+        Check.loadFails("Zones 2;", 1, 0);
+        Check.loadFails("zones", 1, 5);
+        Check.loadFails("zones ;", 1, 6);
+        Check.loadFails("zones 1;", 2, 6);
+        Check.loadFails("zones 9;", 2, 6);
+        Check.loadFails("zones 02", 1, 8);
+        Check.loadFails("zones 99999999999999999999", 2, 6);
+        Check.loadFails("zones 4294967298;", 2, 6);
+        Check.loadFails("zones 2 2;", 1, 8);
+        Check.loadFails("zones 2;;", 1, 8);
+        Check.loadFails("zones 2;zones 2;", 1, 8);
+        Check.loadFails("zones 2;rode 0 1 5;", 1, 8);
+        Check.loadFails("zones 2;toad 0 1 5;", 1, 8);
+        Check.loadFails("zones 2;roads 0 1 5;", 1, 8);
+        Check.loadFails("zones 2;7", 1, 8);
+        Check.loadFails("zones 2;\t", 1, 8);
+        Check.loadFails("zones 2;(", 1, 8);
+        Check.loadFails("zones 2;road 2 1 5;", 2, 13);
+        Check.loadFails("zones 2;road 0 2 5;", 2, 15);
+        Check.loadFails("zones 2;road 0 0 5;", 4, 15);
+        Check.loadFails("zones 2;road 0 1 0;", 2, 17);
+        Check.loadFails("zones 2;road 0 1 100;", 2, 17);
+        Check.loadFails("zones 2;road 0 1 ;", 1, 17);
+        Check.loadFails("zones 2;road 0 1 5", 1, 18);
+        Check.loadFails("zones 2;road 0 1 5 5;", 1, 19);
+        Check.loadFails("zones 2;road 0 1 5;road 0 1 6;", 4, 26);
+        Check.loadFails("zones 2;road 0 1 5;road 1 0 6;", 4, 26);
+        Check.loadFails("zones 2;road 0 1 5;road 0 0 6;", 4, 26);
+        Check.loadFails("zones 2;road a 1 5;", 1, 13);
+        Check.loadFails("zones 2;road 0 b 5;", 1, 15);
+        Check.loadFails("zones 2;road 0", 1, 14);
+        Check.loadFails("zones 2;taxi 0 0 0 1;", 2, 13);
+        Check.loadFails("zones 2;taxi 7 0 0 1;", 2, 13);
+        Check.loadFails("zones 2;taxi 1 2 0 1;", 2, 15);
+        Check.loadFails("zones 2;taxi 1 1 2880 1;", 2, 17);
+        Check.loadFails("zones 2;taxi 1 1 2879 2879;", 4, 22);
+        Check.loadFails("zones 2;taxi 1 1 2879 2880;", 2, 22);
+        Check.loadFails("zones 2;taxi 1 1 5 4;", 4, 19);
+        Check.loadFails("zones 2;taxi 1 1 5 5;", 4, 19);
+        Check.loadFails("zones 2;taxi 1 1 0 0;", 4, 19);
+        Check.loadFails("zones 2;taxi 1 1 0;", 1, 18);
         String four = "zones 2;taxi 1 0 0 9;taxi 1 0 0 9;taxi 1 0 0 9;taxi 1 0 0 9;";
-        error(four + "taxi", 3, 60);
-        error(four + "\n taxi 9 9", 3, 62);
-        error(four + "tax", 1, 60);
-        error("zones 2;tariff 10000 0;", 2, 15);
-        error("zones 2;tariff 0 1000;", 2, 17);
-        error("zones 2;tariff 0;", 1, 16);
-        error("zones 2;discount 1 0;", 2, 17);
-        error("zones 2;discount 5 0;", 2, 17);
-        error("zones 2;discount 2 91;", 2, 19);
-        error("zones 2;discount ;", 1, 17);
-        error("zones 2;rule weight 0;", 1, 13);
-        error("zones 2;rule zones 0;", 1, 13);
-        error("zones 2;rule 0 0;", 1, 13);
-        error("zones 2;rule wait 61;", 2, 18);
-        error("zones 2;rule dwell 10;", 2, 19);
-        error("zones 2;rule offer 61;", 2, 19);
-        error("zones 2;rule patience 31;", 2, 22);
-        error("zones 2;rule fee 10000;", 2, 17);
-        error("zones 2;rule stint 1000;", 2, 19);
-        error("zones 2;rule stint 0;", 2, 19);
-        error("zones 2;rule rest 100;", 2, 18);
-        error("zones 2;rule rest 0;", 2, 18);
-        error("zones 2;rule rest many;", 1, 18);
-        error("zones 2;rule rest 1 \n", 1, 21);
-        error("zones 2;rule rest 1;wait", 1, 20);
+        Check.loadFails(four + "taxi", 3, 60);
+        Check.loadFails(four + "\n taxi 9 9", 3, 62);
+        Check.loadFails(four + "tax", 1, 60);
+        Check.loadFails("zones 2;tariff 10000 0;", 2, 15);
+        Check.loadFails("zones 2;tariff 0 1000;", 2, 17);
+        Check.loadFails("zones 2;tariff 0;", 1, 16);
+        Check.loadFails("zones 2;discount 1 0;", 2, 17);
+        Check.loadFails("zones 2;discount 5 0;", 2, 17);
+        Check.loadFails("zones 2;discount 2 91;", 2, 19);
+        Check.loadFails("zones 2;discount ;", 1, 17);
+        Check.loadFails("zones 2;rule weight 0;", 1, 13);
+        Check.loadFails("zones 2;rule zones 0;", 1, 13);
+        Check.loadFails("zones 2;rule 0 0;", 1, 13);
+        Check.loadFails("zones 2;rule wait 61;", 2, 18);
+        Check.loadFails("zones 2;rule dwell 10;", 2, 19);
+        Check.loadFails("zones 2;rule offer 61;", 2, 19);
+        Check.loadFails("zones 2;rule patience 31;", 2, 22);
+        Check.loadFails("zones 2;rule fee 10000;", 2, 17);
+        Check.loadFails("zones 2;rule stint 1000;", 2, 19);
+        Check.loadFails("zones 2;rule stint 0;", 2, 19);
+        Check.loadFails("zones 2;rule rest 100;", 2, 18);
+        Check.loadFails("zones 2;rule rest 0;", 2, 18);
+        Check.loadFails("zones 2;rule rest many;", 1, 18);
+        Check.loadFails("zones 2;rule rest 1 \n", 1, 21);
+        Check.loadFails("zones 2;rule rest 1;wait", 1, 20);
         // The first error counts, also if a later one has a smaller code.
-        error("zones 2;road 0 0 ?", 4, 15);
-        error("zones 2;taxi 1 2 x", 2, 15);
+        Check.loadFails("zones 2;road 0 0 ?", 4, 15);
+        Check.loadFails("zones 2;taxi 1 2 x", 2, 15);
     }
 
     /** Every byte can be a token, also an invalid one. */
@@ -274,66 +268,59 @@ public final class TextTests {
         return x;
     }
 
-    private static void answer(SharedTaxis x, String text, int want) {
-        Check.due("query(" + text + ")", Check.query(x, text), want);
-        Check.due("errorPosition of " + text, x.errorPosition(), -1);
-    }
-
     // Promise 37
     private static void queryAnswers() {
         SharedTaxis x = fourRides();
-        answer(x, "many ride<4", 4);
-        answer(x, "first ride>4", -1);
-        answer(x, "first ride > 1", 2);
-        answer(x, "many 0 = 0", 4);
-        answer(x, "many 1 < 1", 0);
-        answer(x, "many 1 > 1", 0);
-        answer(x, "many\nride>1and ride<3", 1);
-        answer(x, "many ride=0 or ride=1 and ride=2", 1);
-        answer(x, "many (ride=0 or ride=1) and ride=2", 0);
-        answer(x, "many ride=2 and ride=1 or ride=0", 1);
-        answer(x, "many ride=2 and (ride=1 or ride=0)", 0);
-        answer(x, "many not ride=0 and ride=1", 1);
-        answer(x, "many not (ride=0 and ride=1)", 4);
-        answer(x, "many not ride=0 or ride=0", 4);
-        answer(x, "first not not ride=3", 3);
-        answer(x, "many ride=0 or ride=1 or ride=3", 3);
-        answer(x, "many ride<3 and ride<2 and ride<1", 1);
-        answer(x, "many 00099999 > 99998", 4);
+        Check.answers(x, "many ride<4", 4);
+        Check.answers(x, "first ride>4", -1);
+        Check.answers(x, "first ride > 1", 2);
+        Check.answers(x, "many 0 = 0", 4);
+        Check.answers(x, "many 1 < 1", 0);
+        Check.answers(x, "many 1 > 1", 0);
+        Check.answers(x, "many\nride>1and ride<3", 1);
+        Check.answers(x, "many ride=0 or ride=1 and ride=2", 1);
+        Check.answers(x, "many (ride=0 or ride=1) and ride=2", 0);
+        Check.answers(x, "many ride=2 and ride=1 or ride=0", 1);
+        Check.answers(x, "many ride=2 and (ride=1 or ride=0)", 0);
+        Check.answers(x, "many not ride=0 and ride=1", 1);
+        Check.answers(x, "many not (ride=0 and ride=1)", 4);
+        Check.answers(x, "many not ride=0 or ride=0", 4);
+        Check.answers(x, "first not not ride=3", 3);
+        Check.answers(x, "many ride=0 or ride=1 or ride=3", 3);
+        Check.answers(x, "many ride<3 and ride<2 and ride<1", 1);
+        Check.answers(x, "many 00099999 > 99998", 4);
         Check.due("query", Check.query(new SharedTaxis(), "many 1 = 1"), 0);
         Check.due("query", Check.query(new SharedTaxis(), "first 1 = 1"), -1);
     }
 
     private static void queryProperties() {
         SharedTaxis x = fourRides();
-        answer(x, "first state=2", 0);
-        answer(x, "first state=1", 1);
-        answer(x, "first state=0", 2);
-        answer(x, "first state=4", 3);
-        answer(x, "first from=2", 2);
-        answer(x, "many from=0", 2);
-        answer(x, "first to=3", 3);
-        answer(x, "many from > to", 1);
-        answer(x, "first persons=6", 3);
-        answer(x, "first persons=2", 1);
-        answer(x, "first ready=33", 2);
-        answer(x, "many ready=0", 2);
-        answer(x, "first detour=90", 1);
-        answer(x, "first detour=200", 3);
-        answer(x, "many fare=100", 1);
-        answer(x, "many fare=0", 3);
-        answer(x, "many taxi=1", 2);
-        answer(x, "many taxi=0", 2);
+        Check.answers(x, "first state=2", 0);
+        Check.answers(x, "first state=1", 1);
+        Check.answers(x, "first state=0", 2);
+        Check.answers(x, "first state=4", 3);
+        Check.answers(x, "first from=2", 2);
+        Check.answers(x, "many from=0", 2);
+        Check.answers(x, "first to=3", 3);
+        Check.answers(x, "many from > to", 1);
+        Check.answers(x, "first persons=6", 3);
+        Check.answers(x, "first persons=2", 1);
+        Check.answers(x, "first ready=33", 2);
+        Check.answers(x, "many ready=0", 2);
+        Check.answers(x, "first detour=90", 1);
+        Check.answers(x, "first detour=200", 3);
+        Check.answers(x, "many fare=100", 1);
+        Check.answers(x, "many fare=0", 3);
+        Check.answers(x, "many taxi=1", 2);
+        Check.answers(x, "many taxi=0", 2);
         x.cancel(1);
-        answer(x, "first state=6 and taxi=1", -1);
+        Check.answers(x, "first state=6 and taxi=1", -1);
         x.advance(40);
-        answer(x, "first state=3 and taxi=1 and fare>100", 0);
+        Check.answers(x, "first state=3 and taxi=1 and fare>100", 0);
     }
 
     private static void wrongQuery(String text, int code, int position) {
-        SharedTaxis x = fourRides();
-        Check.due("query(" + text + ")", Check.query(x, text), -1000000000 - code);
-        Check.due("errorPosition of " + text, x.errorPosition(), position);
+        Check.queryFails(fourRides(), text, code, position);
     }
 
     private static void queryErrors() {
@@ -374,12 +361,12 @@ public final class TextTests {
 
     private static void queryDepth() {
         SharedTaxis x = fourRides();
-        answer(x, "many not not not not not not ride=0", 1);
-        answer(x, "many ((((((ride=0))))))", 1);
-        answer(x, "many (not(not(not ride=0)))", 3);
-        answer(x, "many ((((((ride=0)))))) and ((((((ride=0))))))", 1);
-        answer(x, "many not not not not not not ride=0 and not ride=1", 1);
-        answer(x, "many (((((not ride=0 and not ride=1)))))", 2);
+        Check.answers(x, "many not not not not not not ride=0", 1);
+        Check.answers(x, "many ((((((ride=0))))))", 1);
+        Check.answers(x, "many (not(not(not ride=0)))", 3);
+        Check.answers(x, "many ((((((ride=0)))))) and ((((((ride=0))))))", 1);
+        Check.answers(x, "many not not not not not not ride=0 and not ride=1", 1);
+        Check.answers(x, "many (((((not ride=0 and not ride=1)))))", 2);
         wrongQuery("many not not not not not not not ride=0", 3, 29);
         wrongQuery("many (((((((ride=0)))))))", 3, 11);
         wrongQuery("many ((((((not", 3, 11);
@@ -394,7 +381,7 @@ public final class TextTests {
         while (text.length() < 200) {
             text.append(' ');
         }
-        answer(x, text.toString(), 1);
+        Check.answers(x, text.toString(), 1);
         Check.feed(x, text.append("           ").toString());
         Check.illegal("query", () -> x.query(201));
         Check.illegal("query", () -> x.query(-1));
