@@ -31,6 +31,7 @@ public final class RouteBoundsTests {
         restByRuleAsItIs();
         stintBeforeFirstWay();
         seatsOnEachWay();
+        seatsOfAbsent();
         seatsOfSix();
         seatsOnNoMinutes();
         pickupAtLatest();
@@ -450,9 +451,25 @@ public final class RouteBoundsTests {
         asked(x, true, 1, 2, 1, 0, 0);
         x.accept(4);
         asked(x, false, 1, 2, 1, 0, 0);
-        // An absent party needs none.
-        x.absent(4);
-        asked(x, true, 1, 2, 1, 0, 0);
+    }
+
+    private static void seatsOfAbsent() {
+        Check.says("all persons aboard have seats; A party that is told to be absent does not come aboard");
+        // It needs no seats, and it leaves none to others either.
+        SharedTaxis x = Check.desk(TOWN);
+        Check.book(x, 0, 2, 3, 0, 200);
+        x.absent(0);
+        asked(x, true, 0, 2, 4, 0, 200);
+        x.accept(1);
+        Check.dueText("format", Check.format(x, 0), "+1@0 +0@0 -1@2");
+        asked(x, false, 1, 2, 1, 0, 200);
+        SharedTaxis y = Check.desk(TOWN);
+        Check.book(y, 0, 2, 3, 0, 200);
+        Check.book(y, 1, 2, 1, 0, 200);
+        asked(y, false, 1, 2, 1, 0, 200);
+        y.absent(1);
+        asked(y, true, 1, 2, 1, 0, 200);
+        asked(y, false, 1, 2, 2, 0, 200);
     }
 
     private static void seatsOfSix() {
